@@ -1,0 +1,93 @@
+import java.lang.reflect.InvocationTargetException;
+import java.lang.reflect.Method;
+
+/** The 512 calls filled with the dearest ones, and that nothing but the promised is thrown, behind them as well. */
+public final class LimitTest {
+  private static final Check CHECK = new Check();
+  private static final int[] NUMBERS = {Integer.MIN_VALUE, -2, -1, 0, 1, 2, 3, 4, 16, 9999, 10000, Integer.MAX_VALUE};
+
+  public static void main(String[] args) throws Exception {
+    allWrites(0, 2, 1, 16);
+    allWrites(0, 4, 1, 1);
+    allWrites(1, 2, 1, 1);
+    allWrites(1, 4, 20, 16);
+    allWrites(1, 4, 1, 16);
+    manyRuns();
+    anyNumbers();
+    CHECK.end();
+  }
+
+  private static void allWrites(int way, int fan, int piece, int room) {
+    SiltStore x = new SiltStore();
+    Model m = new Model();
+    x.setWay(way, fan, piece);
+    m.setWay(way, fan, piece);
+    x.setRoom(room);
+    m.setRoom(room);
+    for (int i = 0; i < 509; i++) {
+      CHECK.due("put", x.put(i * 37 % 1000, i), m.put(i * 37 % 1000, i));
+    }
+    CHECK.due("digest", x.digest(), m.digest());
+    for (int i = 0; i < 600; i++) {
+      x.put(i, i);
+      x.remove(i);
+      x.flush();
+      x.pack(0);
+      x.digest();
+    }
+  }
+
+  private static void manyRuns() {
+    SiltStore x = new SiltStore();
+    Model m = new Model();
+    x.setWay(1, 4, 1);
+    m.setWay(1, 4, 1);
+    x.setRoom(16);
+    m.setRoom(16);
+    for (int i = 0; i < 254; i++) {
+      x.put(i, i);
+      m.put(i, i);
+      CHECK.due("pack", x.pack(0), m.pack(0));
+    }
+    CHECK.due("digest", x.digest(), m.digest());
+  }
+
+  private static void anyNumbers() throws Exception {
+    for (int way = 0; way < 2; way++) {
+      SiltStore x = new SiltStore();
+      x.setWay(way, 2, 1);
+      for (int round = 0; round < 60; round++) {
+        for (Method method : SiltStore.class.getMethods()) {
+          if (method.getDeclaringClass() == SiltStore.class) {
+            tryAll(x, method, round);
+          }
+        }
+      }
+    }
+  }
+
+  /** Calls it with numbers that differ from place to place and from round to round. */
+  private static void tryAll(SiltStore x, Method method, int round) throws Exception {
+    for (int first = 0; first < NUMBERS.length; first++) {
+      Object[] numbers = new Object[method.getParameterCount()];
+      for (int i = 0; i < numbers.length; i++) {
+        numbers[i] = NUMBERS[(first + i * round + round / NUMBERS.length * i * i) % NUMBERS.length];
+      }
+      String thrown = "";
+      try {
+        method.invoke(x, numbers);
+      } catch (InvocationTargetException e) {
+        thrown = e.getCause().getClass().getSimpleName();
+        for (Class<?> promised : method.getExceptionTypes()) {
+          thrown = e.getCause().getClass() == promised && isThrownHere(e.getCause()) ? "" : thrown;
+        }
+      }
+      CHECK.dueText(method.getName() + " throws what is not promised:", thrown, "");
+    }
+  }
+
+  /** The machine's own exceptions come from it, or from the library, and tell of an index or the like. */
+  private static boolean isThrownHere(Throwable e) {
+    return e.getStackTrace()[0].getClassName().equals("SiltStore") && e.getClass() != ArrayIndexOutOfBoundsException.class;
+  }
+}
