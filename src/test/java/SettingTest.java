@@ -11,6 +11,7 @@ public final class SettingTest {
     promise3SetWayWithRuns();
     promise4SetFilter();
     promise4FiltersOfRuns();
+    promise4FiltersGoWithTheirRuns();
     promise5SetEvery();
     CHECK.end();
   }
@@ -159,6 +160,42 @@ public final class SettingTest {
     CHECK.due("a run keeps its filter", x.bitsSet(0, 0), 1);
     x.pack(0);
     CHECK.due("a merged run has the filter of now", x.bitsSet(3, 0), 3);
+  }
+
+  private static void promise4FiltersGoWithTheirRuns() {
+    SiltStore x = new SiltStore();
+    x.setWay(0, 3, 4);
+    x.setFilter(64, 1);
+    for (int key = 1; key <= 3; key++) {
+      x.put(key, 1);
+      x.flush();
+    }
+    x.setFilter(0, 1);
+    x.put(9, 1);
+    x.flush();
+    x.setFilter(32, 3);
+    x.put(5, 1);
+    x.flush();
+    x.setFilter(16, 2);
+    CHECK.due("bits of 5 in 32, thrice", x.bitsSet(0, 0), 3);
+    CHECK.due("mayHave of 5 + 32", x.mayHave(0, 0, 37), true);
+    CHECK.due("mayHave of 5 + 16", x.mayHave(0, 0, 21), false);
+    CHECK.due("bits of 9", x.bitsSet(0, 1), -1);
+    CHECK.due("mayHave without a filter", x.mayHave(0, 1, 21), true);
+    filterOf1To3(x, 0);
+    x.put(8, 1);
+    x.flush();
+    // In 16, twice: 5 has 6 and 7, 8 has 15 and 6, 9 has 2 and 11.
+    CHECK.due("bits of 5, 8, 9", x.bitsSet(1, 0), 5);
+    filterOf1To3(x, 1);
+  }
+
+  /** In 64, once: 1 has 10, 2 has 13, 3 has 16, 4 has 19, and 65 has that of 1. */
+  private static void filterOf1To3(SiltStore x, int run) {
+    CHECK.due("bits of 1 to 3", x.bitsSet(1, run), 3);
+    CHECK.due("mayHave of 1", x.mayHave(1, run, 1), true);
+    CHECK.due("mayHave of 65", x.mayHave(1, run, 65), true);
+    CHECK.due("mayHave of 4", x.mayHave(1, run, 4), false);
   }
 
   private static void promise5SetEvery() {

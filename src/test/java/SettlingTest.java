@@ -13,6 +13,8 @@ public final class SettlingTest {
     way1TakesRangesTogether();
     way1PiecesHaveWholeKeys();
     way1StoneStaysOverLevelsBelow();
+    way1StoneGoesUnderLevelsAbove();
+    way1RangesMeetAtTheirEdges();
     CHECK.end();
   }
 
@@ -212,6 +214,12 @@ public final class SettlingTest {
     CHECK.dueRuns(y, 1, "[20@2=1][29@5=1][30@3=1]");
     CHECK.dueRuns(y, 2, "[10@4=1][12@6=1]");
     CHECK.due("mark", y.mark(1), 12);
+    put(y, 12);
+    put(y, 13);
+    put(y, 14);
+    // A least KEY that is the MARK is not greater: 12 stays, 13, 14 and 20 go.
+    CHECK.dueRuns(y, 1, "[12@7=1][29@5=1][30@3=1]");
+    CHECK.due("mark", y.mark(1), 20);
   }
 
   private static void way1PiecesHaveWholeKeys() {
@@ -243,6 +251,39 @@ public final class SettlingTest {
     y.flush();
     y.pack(0);
     CHECK.dueRuns(y, 3, "[1@2=2 1@1=1][2@3=2]");
+  }
+
+  private static void way1RangesMeetAtTheirEdges() {
+    SiltStore x = new SiltStore();
+    x.setWay(1, 2, 2);
+    x.setRoom(16);
+    put(x, 10, 20);
+    put(x, 30, 40);
+    put(x, 20);
+    put(x, 30);
+    CHECK.dueRuns(x, 1, "[10@1=1 20@5=1][30@6=1 40@4=1]");
+    CHECK.dueCounted(x, 0, 0, 0, 6, 2, 4 + 4 + 2 + 4);
+  }
+
+  private static void way1StoneGoesUnderLevelsAbove() {
+    SiltStore x = new SiltStore();
+    x.setWay(1, 2, 1);
+    x.setRoom(16);
+    x.put(1, 1);
+    x.snap();
+    x.remove(1);
+    x.flush();
+    put(x, 50);
+    CHECK.dueRuns(x, 2, "[1@2- 1@1=1]");
+    x.release(0);
+    put(x, 1);
+    put(x, 2);
+    put(x, 60);
+    put(x, 61);
+    CHECK.dueRuns(x, 1, "[1@4=1][61@7=1]");
+    CHECK.dueRuns(x, 2, "[2@5=1][50@3=1][60@6=1]");
+    CHECK.dueRuns(x, 3, "");
+    CHECK.due("mark", x.mark(2), 1);
   }
 
   private static void way1StoneStaysOverLevelsBelow() {

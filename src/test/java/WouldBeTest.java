@@ -123,6 +123,9 @@ public final class WouldBeTest {
     x.setEvery(0);
     x.setRoom(16);
     x.put(1, 1);
+    CHECK.due("getSafe(1)", x.getSafe(1), -1);
+    x.sync();
+    CHECK.due("getSafe(1) of the only write", x.getSafe(1), 1);
     x.put(2, 2);
     x.flush();
     x.put(1, 3);
@@ -192,7 +195,7 @@ public final class WouldBeTest {
     CHECK.due("digest", x.digest(), due);
     CHECK.due("digest changes nothing", x.digest(), due);
     SiltStore y = new SiltStore();
-    y.put(7, 7);
+    y.put(0, 7);
     CHECK.due("digest with a hand", y.digest(),
         digestOf(1, 1, 0, 0, 1, 0, 0, 0, 0, 0, 1, 0, 0, 0, -1, 0, 0, -1, 0, 0, -1, 0, 0, -1, 0, 7));
   }
