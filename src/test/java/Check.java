@@ -36,6 +36,12 @@ final class Check {
   /** The call must throw just this kind and leave the store as it was. */
   void refused(SiltStore x, String call, Class<?> kind, Call todo) {
     long before = x.digest();
+    thrown(call, kind, todo);
+    due("digest() behind " + call, x.digest(), before);
+  }
+
+  /** The call must throw just this kind. */
+  void thrown(String call, Class<?> kind, Call todo) {
     String thrown = "nothing";
     try {
       todo.run();
@@ -43,7 +49,6 @@ final class Check {
       thrown = e.getClass().getSimpleName();
     }
     dueText(call + " throws", thrown, kind.getSimpleName());
-    due("digest() behind " + call, x.digest(), before);
   }
 
   void badArgument(SiltStore x, String call, Call todo) {

@@ -14,6 +14,7 @@ public final class LimitTest {
     allWrites(1, 4, 1, 16);
     manyRuns();
     nothingButWrites();
+    each512thWriteIsTaken();
     anyNumbers();
     CHECK.end();
   }
@@ -60,6 +61,24 @@ public final class LimitTest {
       CHECK.due("put", x.put(9999 - i, i), m.put(9999 - i, i));
     }
     CHECK.due("digest", x.digest(), m.digest());
+  }
+
+  /** "At most 512 calls": the last one may be a WRITE as all others were, whatever it brings about. */
+  private static void each512thWriteIsTaken() {
+    SiltStore x = new SiltStore();
+    for (int i = 1; i <= 512; i++) {
+      CHECK.due("WRITE " + i, i % 2 == 0 ? x.remove(9999) : x.put(i, i), i);
+    }
+    SiltStore y = new SiltStore();
+    for (int i = 1; i <= 511; i++) {
+      y.put(i, 1);
+    }
+    CHECK.due("the 512th call", y.sum(0, 9999), 511);
+    SiltStore z = new SiltStore();
+    for (int i = 1; i <= 256; i++) {
+      z.put(i, 1);
+      CHECK.due("flush()", z.flush(), 1);
+    }
   }
 
   private static void anyNumbers() throws Exception {
