@@ -69,16 +69,22 @@ public final class LimitTest {
     for (int i = 1; i <= 512; i++) {
       CHECK.due("WRITE " + i, i % 2 == 0 ? x.remove(9999) : x.put(i, i), i);
     }
-    SiltStore y = new SiltStore();
-    for (int i = 1; i <= 511; i++) {
-      y.put(i, 1);
-    }
-    CHECK.due("the 512th call", y.sum(0, 9999), 511);
+    CHECK.due("sum() as the 512th call", with511Writes().sum(0, 9999), 511);
+    CHECK.due("keys() as the 512th call", with511Writes().keys(), 511);
+    CHECK.due("get() as the 512th call", with511Writes().get(511), 1);
+    CHECK.due("next() as the 512th call", with511Writes().next(510), 511);
+    CHECK.due("flush() as the 512th call", with511Writes().flush(), 3);
     SiltStore z = new SiltStore();
     for (int i = 1; i <= 256; i++) {
       z.put(i, 1);
       CHECK.due("flush()", z.flush(), 1);
     }
+  }
+
+  private static SiltStore with511Writes() {
+    SiltStore x = new SiltStore();
+    Fill.puts(x, 1, 511);
+    return x;
   }
 
   private static void anyNumbers() throws Exception {
